@@ -696,10 +696,10 @@ public final class ShufflingBook {
             int leaf = leaves.at(0);
             if (kind == CUT) {
                 cut();
-            } else if (kind == DOWN || kind == TURNS && readBefore % 2 == 0) {
-                layTop(Math.min(reach, size - 1));
-            } else {
+            } else if (kind == UNDER || kind == TURNS && readBefore % 2 != 0) {
                 layTop(size - 1);
+            } else {
+                layTop(Math.min(reach, size - 1));
             }
             return leaf;
         }
@@ -925,7 +925,7 @@ public final class ShufflingBook {
                 leaves.put(place, leaf);
                 places.put(leaf, place);
                 bound++;
-            } else if (leafThere != leaf || placeThen != place) {
+            } else if (leafThere != leaf) {
                 consistent = false;
             }
         }
