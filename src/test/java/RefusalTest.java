@@ -172,122 +172,14 @@ public final class RefusalTest {
         bad(all, "count(#)", 0, 7, (x, what) -> x.count(what));
     }
 
-    // ---- all that can be asked
-
-    private static final class Answers {
-        private final List<String> calls = new ArrayList<>();
-        private final List<Long> answers = new ArrayList<>();
-
-        void add(String call, long answer) {
-            calls.add(call);
-            answers.add(answer);
-        }
-
-        void due(String when, Answers want) {
-            Bench.due(when + " calls", answers.size(), want.answers.size());
-            for (int k = 0; k < Math.min(answers.size(), want.answers.size()); k++) {
-                Bench.due(when + " " + calls.get(k), answers.get(k), want.answers.get(k));
-            }
-        }
-    }
-
-    /** Asks all, and changes nothing. */
-    private static void ask(ShufflingBook x, Answers to) {
-        for (int what = 0; what < 8; what++) {
-            to.add("count " + what, x.count(what));
-        }
-        to.add("fault", x.fault());
-        to.add("period", x.period());
-        to.add("so", x.so());
-        for (int what = 0; what < 2; what++) {
-            to.add("ever " + what, x.ever(what));
-            to.add("pleased " + what, x.pleased(2, what));
-        }
-        for (int what = 0; what < 3; what++) {
-            to.add("quickest " + what, x.quickest(what));
-        }
-        for (int j = 0; j < 3; j++) {
-            askReader(x, to, j);
-        }
-        int n = x.count(0);
-        for (int p = 0; p < n; p++) {
-            askPlace(x, to, p);
-        }
-    }
-
-    private static void askReader(ShufflingBook x, Answers to, int j) {
-        int r = x.count(1);
-        for (int i = 0; i < r; i++) {
-            to.add("has " + j + ", " + i, x.has(j, i));
-        }
-        to.add("leaves " + j, x.leaves(j));
-        to.add("right " + j, x.right(j));
-    }
-
-    private static void askPlace(ShufflingBook x, Answers to, int p) {
-        to.add("leaf, pack " + p, x.leaf(p, 0));
-        to.add("leaf, first " + p, x.leaf(p, 1));
-        to.add("where " + p, x.where(p));
-        to.add("order " + p, x.order(1, p));
-        to.add("sure " + p, x.sure(p));
-        to.add("lacks " + p, x.lacks(p, 0));
-        to.add("as his " + p, x.lacks(p, 1));
-        to.add("notice " + p, x.notice(p, 0, 7));
-        for (int k = 0; k < 4; k++) {
-            to.add("shows " + k + ", " + p, x.shows(k, p));
-        }
-    }
-
-    private static void askPack(ShufflingBook x, Answers to) {
-        to.add("count 3", x.count(3));
-        to.add("count 4", x.count(4));
-        int n = x.count(0);
-        for (int p = 0; p < n; p++) {
-            to.add("leaf, pack " + p, x.leaf(p, 0));
-        }
-    }
-
-    /** What only shows by changing things: how the reading goes on, what is kept, seen, written. */
-    private static void use(ShufflingBook x, Answers to) {
-        for (int k = 0; k < 5; k++) {
-            to.add("read", x.read());
-        }
-        to.add("finish", x.finish());
-        askPack(x, to);
-        for (int k = 0; k < 3; k++) {
-            to.add("back", x.back());
-            askPack(x, to);
-        }
-        for (int k = 0; k < 3; k++) {
-            to.add("keep", x.keep());
-        }
-        to.add("forget", x.forget());
-        for (int k = 0; k < 13; k++) {
-            to.add("seen", x.seen(0, 0, 0));
-        }
-        to.add("write", x.write(3, 0x72373B));
-        to.add("fault", x.fault());
-        to.add("lay", x.lay());
-        to.add("wipe", x.wipe());
-        to.add("leaf, first", x.leaf(0, 1));
-        to.add("has", x.has(1, 0));
-    }
-
-    private static Answers lookedAt(ShufflingBook x) {
-        Answers all = new Answers();
-        ask(x, all);
-        use(x, all);
-        return all;
-    }
-
     // ---- tests
 
     private static void refusedAndUnchanged(State state, List<Refusal> refusals) {
-        Answers want = lookedAt(state.made.get());
+        Answers want = Answers.of(state.made.get());
         for (Refusal refusal : refusals) {
             ShufflingBook x = state.made.get();
             Bench.due(state.name + ": " + refusal.call, refusal.on.applyAsLong(x), refusal.want);
-            lookedAt(x).due(state.name + ": " + refusal.call + ", behind it", want);
+            Answers.of(x).due(state.name + ": " + refusal.call + ", behind it", want);
         }
     }
 
@@ -307,13 +199,9 @@ public final class RefusalTest {
     /** PLACES of THE PACK change by no other calls; nor does anything else by what only asks. */
     private static void askingChangesNothing() {
         for (State state : states()) {
-            Answers want = new Answers();
-            use(state.made.get(), want);
             ShufflingBook x = state.made.get();
-            ask(x, new Answers());
-            Answers behind = new Answers();
-            use(x, behind);
-            behind.due(state.name + ", behind all that asks,", want);
+            Answers asked = Answers.of(x);
+            Answers.used(state.made.get()).dueLast(state.name + ", nothing asked before,", asked);
         }
     }
 

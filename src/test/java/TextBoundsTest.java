@@ -387,6 +387,32 @@ public final class TextBoundsTest {
         }
     }
 
+    /** Of what was laid or written before nothing is left: all is as on a new object. */
+    private static void layAnotherText() {
+        String[] before = {
+            "n40;r40;l1,39;" + Bench.items("s#,39;", 0, 19) + "t39;".repeat(20), "n6;r2;l3,1;s2,5;t5;",
+            "n9;r1;l2,8;s8,1;t8;"
+        };
+        String[] texts = {"", "n5;", "n2;r1;", "n5;r1;l1,0;t2;", "n7;r3;l2,0;s0,1;t1;t2;", "r3;t9;", "s9,9;", "l0,1;"};
+        for (String old : before) {
+            for (String text : texts) {
+                Answers want = Answers.of(Bench.laid(text));
+                ShufflingBook x = Bench.laid(old);
+                x.lay();
+                x.wipe();
+                Bench.write(x, text);
+                x.lay();
+                Answers.of(x).due(text + " behind " + old, want);
+                x = Bench.written(old);
+                x.fault();
+                x.wipe();
+                Bench.write(x, text);
+                x.lay();
+                Answers.of(x).due(text + " behind the fault of " + old, want);
+            }
+        }
+    }
+
     public static void main(String[] args) {
         Bench.sentence("1: An empty TEXT is LAID", TextBoundsTest::newObject);
         Bench.sentence("2: The lowest n bytes (1 to 8) of v, the highest of these first", TextBoundsTest::bytesAtOnce);
@@ -408,6 +434,7 @@ public final class TextBoundsTest {
         Bench.sentence("LAID is a TEXT whose PLACES of s and LEAVES of t are below N", TextBoundsTest::laidBelowN);
         Bench.sentence("5: THE PACK in the FIRST ORDER, nothing read, SEEN, KEPT (THE TEXT stays)",
             TextBoundsTest::layBeginsAnew);
+        Bench.sentence("5: LAID: how many LEAVES; THE PACK in the FIRST ORDER", TextBoundsTest::layAnotherText);
         Bench.sentence("NO else; an empty one at first", TextBoundsTest::notLaid);
         Bench.end();
     }
