@@ -240,7 +240,7 @@ public final class OrderBoundsTest {
     }
 
     public static void main(String[] args) {
-        Bench.sentence("ORDER: all RIGHT (of that many i); LEAVES not told, the lower ahead, in the PLACES that are left",
+        Bench.sentence("ORDER: all RIGHT (of that many i); the lower ahead, in the PLACES that are left",
             OrderBoundsTest::allRightOfThatMany);
         Bench.sentence("17: the LEAF at a PLACE; BAD", OrderBoundsTest::orderOfPlaces);
         Bench.sentence("none (a PLACE would have to have two LEAVES, or a LEAF two PLACES)", OrderBoundsTest::noOrder);
