@@ -42,7 +42,7 @@ public final class RefusalTest {
         x.wipe();
         Bench.write(x, "n10;".repeat(74) + "r1;x");
         for (int k = 0; k < 12; k++) {
-            x.seen(k, 0, (int) x.has(k, 0));
+            x.seen(k, 0, x.has(k, 0));
         }
         x.read();
         x.keep();
